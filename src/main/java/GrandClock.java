@@ -46,7 +46,7 @@ public final class GrandClock {
     private static final int MAX_CLOCKS = 8;
     private static final int MIN_LINKS = 1;
     private static final int MAX_LINKS = 16;
-    private static final int MAX_ENDS = 32;
+    private static final int MAX_ENDS = 2 * MAX_LINKS;
     private static final int MIN_TIMEOUT = 1;
     private static final int MAX_TIMEOUT = 4;
 
@@ -71,12 +71,12 @@ public final class GrandClock {
     private static final int ROW_COLUMNS = 10;
 
     // The dataset rows come first, then the vector rows, then the store rows.
-    private static final int FIRST_VECTOR = 8;
-    private static final int FIRST_STORE = 16;
-    private static final int ROW_CELLS = 480;
+    private static final int FIRST_VECTOR = MAX_CLOCKS;
+    private static final int FIRST_STORE = 2 * MAX_CLOCKS;
+    private static final int ROW_CELLS = (FIRST_STORE + MAX_ENDS) * ROW_COLUMNS;
 
     private static final int MEASURES = 9;
-    private static final int MEASURE_CELLS = 72;
+    private static final int MEASURE_CELLS = MAX_CLOCKS * MEASURES;
 
     private final int clockCount;
     private final int linkCapacity;
@@ -103,7 +103,7 @@ public final class GrandClock {
         linkCapacity = clamp(links, MIN_LINKS, MAX_LINKS);
         announceTimeout = clamp(timeout, MIN_TIMEOUT, MAX_TIMEOUT);
         linkCount = 0;
-        for (int c = 0; c < MAX_CLOCKS; c++) {
+        for (int c = 0; c < clockCount; c++) {
             startDataset(c);
             followItself(c);
         }
@@ -158,7 +158,7 @@ public final class GrandClock {
         endClock[other] = b;
         endDelay[end] = clamp(dab, 0, MAX_DELAY);
         endDelay[other] = clamp(dba, 0, MAX_DELAY);
-        raiseOrLower(link, true);
+        resetLink(link, true);
         return link;
     }
 
@@ -167,7 +167,7 @@ public final class GrandClock {
             return false;
         }
         if (linkUp[link] != up) {
-            raiseOrLower(link, up);
+            resetLink(link, up);
         }
         return true;
     }
@@ -288,7 +288,7 @@ public final class GrandClock {
         return false;
     }
 
-    private void raiseOrLower(int link, boolean up) {
+    private void resetLink(int link, boolean up) {
         linkUp[link] = up;
         int end = firstEnd(link);
         int other = otherEnd(end);
@@ -517,14 +517,11 @@ public final class GrandClock {
         parentLink[c] = linkOf(best);
         for (int end = 0; end < 2 * linkCount; end++) {
             if (isUpEndOf(c, end)) {
-                endState[end] = end == best ? SLAVE : stateBeside(end, vector);
+                int rival = storeRow(end);
+                boolean better = rows[rival + VALID] == 1 && compareRows(rival, vector, VECTOR_COLUMNS) < 0;
+                endState[end] = better ? PASSIVE : MASTER;
             }
         }
-    }
-
-    private int stateBeside(int end, int vector) {
-        int store = storeRow(end);
-        boolean better = rows[store + VALID] == 1 && compareRows(store, vector, VECTOR_COLUMNS) < 0;
-        return better ? PASSIVE : MASTER;
+        endState[best] = SLAVE;
     }
 }

@@ -7,7 +7,8 @@ public final class P08AnnounceTest {
         agesUntilTheTimeout(due);
         acceptsUpToSixSteps(due);
         refusesTheReceiversOwnIdentity(due);
-        agesWhenTheMessageIsRefused(due);
+        agesWhenTooManyStepsAreRefused(due);
+        agesWhenItsOwnIdentityIsRefused(due);
         passesDownLinks(due);
         due.end();
     }
@@ -31,10 +32,7 @@ public final class P08AnnounceTest {
 
     /** In the triangle, the end at 2 toward 1 is passive and the ends toward 0 are slaves. */
     private static void sendsFromMastersAlone(Due due) {
-        GrandClock x = new GrandClock(3, 3, 1);
-        x.addLink(0, 1, 0, 0);
-        x.addLink(1, 2, 0, 0);
-        x.addLink(2, 0, 0, 0);
+        GrandClock x = Scenes.triangle(1);
         x.run(4);
         due.states(x, 1, 1, GrandClock.MASTER, 2, GrandClock.PASSIVE);
         due.cleared(x, 0, 0);
@@ -84,23 +82,49 @@ public final class P08AnnounceTest {
         due.message(x, 2, 2, 128, 248, 254, 65535, 128, 0, 0, 0);
     }
 
-    /**
-     * Clock 1 hears clock 0 and clock 2 say that they follow clock 1 only when it has
-     * turned worse: its store of clock 2's first own vector ages all the while.
-     */
-    private static void agesWhenTheMessageIsRefused(Due due) {
-        GrandClock x = new GrandClock(3, 3, 4);
+    /** Clock 0 on clock 1, and a ring of 1, 2 and 3 in which its vector goes round when it is gone. */
+    private static GrandClock tailedRing() {
+        GrandClock x = new GrandClock(4, 4, 3);
         x.addLink(0, 1, 0, 0);
-        x.run(6);
         x.addLink(1, 2, 0, 0);
-        x.run(1);
-        due.message(x, 1, 1, 128, 248, 254, 65535, 128, 2, 0, 2);
-        for (int age = 1; age <= 3; age++) {
+        x.addLink(2, 3, 0, 0);
+        x.addLink(3, 1, 0, 0);
+        x.run(30);
+        return x;
+    }
+
+    /** From the sixth step on clock 1 says 7 steps, which clock 2 refuses till its older store is out. */
+    private static void agesWhenTooManyStepsAreRefused(Due due) {
+        GrandClock x = tailedRing();
+        x.setLinkUp(0, false);
+        int[] stepsOf1 = {0, 0, 4, 4, 4, 7, 7, 7, 7, 7, 0};
+        int[] stepsOf2 = {2, 1, 1, 5, 5, 5, 5, 5, 0, 0, 0};
+        int[] agesAt2 = {0, 0, 0, 0, 0, 0, 1, 2, 0, 0, 0};
+        for (int i = 0; i < stepsOf1.length; i++) {
             x.run(1);
-            due.call(x.getAnnounce(1, 1, GrandClock.F_AGE), age, "getAnnounce", 1, 1, 3);
+            due.call(x.getStepsRemoved(1), stepsOf1[i], "getStepsRemoved", 1);
+            due.call(x.getStepsRemoved(2), stepsOf2[i], "getStepsRemoved", 2);
+            due.call(x.getAnnounce(2, 1, GrandClock.F_VALID), i < 8 ? 1 : 0, "getAnnounce", 2, 1, 0);
+            due.call(x.getAnnounce(2, 1, GrandClock.F_AGE), agesAt2[i], "getAnnounce", 2, 1, 3);
         }
-        x.run(1);
-        due.cleared(x, 1, 1);
+        due.cleared(x, 2, 1);
+    }
+
+    /** Clock 0 turns worse and follows clock 1, to which its own old vector comes back in the fourth step. */
+    private static void agesWhenItsOwnIdentityIsRefused(Due due) {
+        GrandClock x = tailedRing();
+        x.setPriority(0, 200, 200);
+        int[] grandmasters = {0, 0, 1, 1, 1, 1, 0};
+        int[] ages = {0, 0, 0, 0, 1, 2, 0};
+        for (int i = 0; i < ages.length; i++) {
+            x.run(1);
+            due.call(x.getGrandmaster(0), grandmasters[i], "getGrandmaster", 0);
+            due.call(x.getAnnounce(0, 0, GrandClock.F_GM), grandmasters[i], "getAnnounce", 0, 0, 1);
+            due.call(x.getAnnounce(0, 0, GrandClock.F_AGE), ages[i], "getAnnounce", 0, 0, 3);
+        }
+        due.states(x, 0, 0, GrandClock.MASTER, 1, GrandClock.MASTER);
+        due.follows(x, 1, 0, 3, 7);
+        due.cleared(x, 0, 0);
     }
 
     private static void passesDownLinks(Due due) {

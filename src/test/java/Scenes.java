@@ -41,4 +41,13 @@ final class Scenes {
         }
         return x;
     }
+
+    /** Three clocks, link 0 from 0 to 1, link 1 from 1 to 2, link 2 from 2 to 0, before the first step. */
+    static GrandClock triangle(int timeout) {
+        GrandClock x = new GrandClock(3, 3, timeout);
+        x.addLink(0, 1, 0, 0);
+        x.addLink(1, 2, 0, 0);
+        x.addLink(2, 0, 0, 0);
+        return x;
+    }
 }
