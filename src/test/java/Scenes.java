@@ -5,6 +5,27 @@ final class Scenes {
     private Scenes() {
     }
 
+    /** Indices that are not in 0..n-1, some of them indices again when cut to fewer bits or multiplied. */
+    static int[] outside(int n) {
+        return new int[] {
+            Integer.MIN_VALUE, Integer.MIN_VALUE + 1, -65536, -256, -n, -1, n, n + 1,
+            256, 65536, 1 << 28, 1 << 30, Integer.MAX_VALUE
+        };
+    }
+
+    /** A ring of so many clocks (of two, a pair) amid its work, the last one the best. */
+    static GrandClock ring(int clocks) {
+        GrandClock x = new GrandClock(clocks, 16, 3);
+        for (int c = 0; c < clocks; c++) {
+            x.addLink(c, (c + 1) % clocks, 1000 + c, 3000);
+            x.setDrift(c, 1000 * c - 2500);
+            x.setTime(c, 7000L * c);
+        }
+        x.setPriority(clocks - 1, 5, 6);
+        x.run(9);
+        return x;
+    }
+
     /** Five clocks with a ring, a chord, a down link, drifts and times, amid their work. */
     static GrandClock busy() {
         GrandClock x = new GrandClock(5, 8, 3);
