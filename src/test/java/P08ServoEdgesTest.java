@@ -4,6 +4,7 @@ public final class P08ServoEdgesTest {
 
     public static void main(String[] args) {
         Due due = new Due();
+        steersEachMeasuredClock(due);
         steersAtTheStepLimit(due);
         stepsBeyondTheStepLimit(due);
         stepsLeaveAdjustAndIntegral(due);
@@ -15,6 +16,28 @@ public final class P08ServoEdgesTest {
         keepsAllOfAClockThatIsNotMeasured(due);
         advancesByDriftAndAdjustAtTheirBounds(due);
         due.end();
+    }
+
+    /** "This applies to each measured c": the seven clocks round the best one, the first or the last of them. */
+    private static void steersEachMeasuredClock(Due due) {
+        for (int best = 0; best <= 7; best += 7) {
+            GrandClock x = new GrandClock(8, 16, 2);
+            x.setPriority(best, 0, 0);
+            for (int c = 0; c < 8; c++) {
+                x.addLink(best, c, 0, 0);
+            }
+            x.run(30);
+            for (int c = 0; c < 8; c++) {
+                x.setTime(c, x.getTime(best) + (c == best ? 0 : 80 + 80 * c));
+            }
+            x.run(1);
+            for (int c = 0; c < 8; c++) {
+                long n = c == best ? 0 : 1 + c;
+                due.call(x.getMeasure(c, GrandClock.M_INTEGRAL), -10 * n, "getMeasure", c, GrandClock.M_INTEGRAL);
+                due.call(x.getMeasure(c, GrandClock.M_ADJUST), -50 * n, "getMeasure", c, GrandClock.M_ADJUST);
+                due.call(x.getTime(c), x.getTime(best) + 30 * n, "getTime", c);
+            }
+        }
     }
 
     /** Clock 1 of a pair without delays, which follows clock 0 and has not been measured yet. */
