@@ -268,7 +268,7 @@ public final class LanguageTest {
         public Void visitNewArray(NewArrayTree tree, Void nothing) {
             boolean plain = tree.getInitializers() == null && tree.getDimensions().size() == 1;
             due.that(plain && isConstant(tree.getDimensions().get(0)), "rule 4: a constant length: " + tree);
-            due.that(method == null || isInConstructor(), "rule 4: made in a field's initialiser or the constructor: " + tree);
+            due.that(method == null || isInConstructor(), "rule 4: made at the start: " + tree);
             due.that(!isInside(LOOPS) && !isInside(CONDITIONS), "rule 4: not in a loop or behind a condition: " + tree);
             due.that(!isInConstructor() || lineOf(tree, false) < firstCall, "rule 4: made before the first call: " + tree);
             return super.visitNewArray(tree, nothing);
@@ -293,7 +293,8 @@ public final class LanguageTest {
 
         @Override
         public Void visitBinary(BinaryTree tree, Void nothing) {
-            due.that(!isArray(tree.getLeftOperand()) && !isArray(tree.getRightOperand()), "rule 4: no array compared: " + tree);
+            boolean arrays = isArray(tree.getLeftOperand()) || isArray(tree.getRightOperand());
+            due.that(!arrays, "rule 4: no array compared: " + tree);
             return super.visitBinary(tree, nothing);
         }
 
@@ -302,7 +303,8 @@ public final class LanguageTest {
             Element called = elementOf(tree);
             boolean superCall = tree.getMethodSelect().toString().equals("super");
             due.that(arguments == 0, "rule 10: no call among the arguments of another: " + tree);
-            due.that(superCall || called.getEnclosingElement().toString().equals("GrandClock"), "rule 3: a method of the program: " + tree);
+            boolean own = called.getEnclosingElement().toString().equals("GrandClock");
+            due.that(superCall || own, "rule 3: a method of the program: " + tree);
             if (!superCall && method != null) {
                 calls.get(elementOf(method)).add(called);
             }

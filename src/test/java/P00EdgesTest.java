@@ -71,7 +71,7 @@ public final class P00EdgesTest {
         x.setQuality(c, fields[1], fields[2], fields[3]);
     }
 
-    /** Clock 1 hears of clock 0 from 2 over one step more than from 3, the larger sender. */
+    /** "The first difference decides": clock 1 hears of 0 from 2 over one step more than from 3, the larger sender. */
     private static void stepsRemovedDecidesAfterTheGmTuple(Due due) {
         GrandClock x = new GrandClock(5, 5, 2);
         x.addLink(2, 1, 0, 0);
@@ -85,7 +85,7 @@ public final class P00EdgesTest {
         due.follows(x, 1, 0, 3, 2);
     }
 
-    /** Candidates that are equal in all but the last field, in both orders of their links. */
+    /** "The first difference decides": candidates equal in all but the last field, in both orders of their links. */
     private static void senderDecidesLast(Due due) {
         for (int first = 1; first <= 2; first++) {
             GrandClock x = new GrandClock(4, 4, 2);
@@ -145,6 +145,7 @@ public final class P00EdgesTest {
         return x;
     }
 
+    /** "All long arithmetic wraps as in Java": t2 and t4 beyond the last long, and times on both sides of it. */
     private static void timesOfAMeasurementWrap(Due due) throws IllegalAccessException {
         GrandClock late = showing(100, 300, Long.MAX_VALUE - 5, Long.MAX_VALUE - 5);
         late.run(1);
@@ -159,7 +160,7 @@ public final class P00EdgesTest {
         due.call(across.getTime(1), -9223372035854775810L, "getTime", 1);
     }
 
-    /** The offset halves twice the difference, which wraps from 2 to the 62nd on. */
+    /** "All long arithmetic wraps as in Java": the offset halves twice the difference, which wraps from 2 to the 62nd on. */
     private static void differencesWrap(Due due) throws IllegalAccessException {
         offsetOf(due, 0L, HALF - 1, HALF - 1);
         offsetOf(due, 0L, HALF, -HALF);
@@ -177,6 +178,7 @@ public final class P00EdgesTest {
         due.measures(x, 1, offset, 0, time0, time1, time1, time0);
     }
 
+    /** "All long arithmetic wraps as in Java": the time less the offset. */
     private static void steppingWraps(Due due) throws IllegalAccessException {
         GrandClock x = showing(0, 0, 0L, HALF + 5);
         x.run(1);

@@ -47,6 +47,7 @@ public final class P01EdgesTest {
         return 0;
     }
 
+    /** "N = clamp(clocks, 2, 8)" */
     private static void clampsTheNumberOfClocks(Due due) {
         int[] given = {1, 2, 3, 4, 5, 6, 7, 8, 9};
         int[] taken = {2, 2, 3, 4, 5, 6, 7, 8, 8};
@@ -55,6 +56,7 @@ public final class P01EdgesTest {
         }
     }
 
+    /** "C = clamp(links, 1, 16)" */
     private static void clampsTheLinkCapacity(Due due) {
         int[] given = {0, 1, 2, 3, 15, 16, 17};
         int[] taken = {1, 1, 2, 3, 15, 16, 16};
@@ -63,6 +65,7 @@ public final class P01EdgesTest {
         }
     }
 
+    /** "T = clamp(timeout, 1, 4)" */
     private static void clampsTheTimeout(Due due) {
         int[] given = {0, 1, 2, 3, 4, 5};
         int[] taken = {1, 1, 2, 3, 4, 4};
@@ -107,6 +110,7 @@ public final class P01EdgesTest {
         due.call(x.addLink(0, 7, 0, 0), 0, "addLink", 0, 7, 0, 0);
     }
 
+    /** "Every clock c has": all the rows of the start, for every number of clocks. */
     private static void startsEveryClock(Due due) {
         for (int n = 2; n <= 8; n++) {
             GrandClock x = new GrandClock(n, 1, 1);
@@ -129,7 +133,7 @@ public final class P01EdgesTest {
         due.follows(x, n, -1, -1, -1);
     }
 
-    /** The vectors are those of the datasets, and a step, which makes them anew, leaves them. */
+    /** "D(c) = (128, 248, 254, 65535, 128, c)": equal in all but the identity. */
     private static void startsWithDatasetsInTheOrderOfTheirIdentities(Due due) {
         GrandClock x = new GrandClock(8, 1, 1);
         for (int a = 0; a < 8; a++) {

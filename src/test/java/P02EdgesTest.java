@@ -35,6 +35,7 @@ public final class P02EdgesTest {
         }
     }
 
+    /** "D(c).priority1 = clamp(p1, 0, 255)" */
     private static void clampsPriority1(Due due) {
         priority1(due, Integer.MIN_VALUE, 0);
         priority1(due, -256, 0);
@@ -55,6 +56,7 @@ public final class P02EdgesTest {
         due.ownVector(x, 1, taken, 248, 254, 65535, 77);
     }
 
+    /** "D(c).priority2 = clamp(p2, 0, 255)" */
     private static void clampsPriority2(Due due) {
         priority2(due, Integer.MIN_VALUE, 0);
         priority2(due, -256, 0);

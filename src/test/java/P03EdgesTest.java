@@ -44,6 +44,7 @@ public final class P03EdgesTest {
         due.ownVector(x, 1, 128, wantCls, wantAcc, wantVar, 128);
     }
 
+    /** "D(c).clockClass = clamp(cls, 0, 255)" */
     private static void clampsTheClass(Due due) {
         taken(due, Integer.MIN_VALUE, 77, 78, 0, 77, 78);
         taken(due, -1, 77, 78, 0, 77, 78);
@@ -56,6 +57,7 @@ public final class P03EdgesTest {
         taken(due, Integer.MAX_VALUE, 77, 78, 255, 77, 78);
     }
 
+    /** "D(c).accuracy = clamp(acc, 0, 255)" */
     private static void clampsTheAccuracy(Due due) {
         taken(due, 77, Integer.MIN_VALUE, 78, 77, 0, 78);
         taken(due, 77, -1, 78, 77, 0, 78);
@@ -68,6 +70,7 @@ public final class P03EdgesTest {
         taken(due, 77, Integer.MAX_VALUE, 78, 77, 255, 78);
     }
 
+    /** "D(c).variance = clamp(var, 0, 65535)" */
     private static void clampsTheVariance(Due due) {
         taken(due, 77, 78, Integer.MIN_VALUE, 77, 78, 0);
         taken(due, 77, 78, -1, 77, 78, 0);

@@ -37,6 +37,7 @@ public final class P04EdgesTest {
         }
     }
 
+    /** "drift(c) = clamp(ppb, -MAX_DRIFT, MAX_DRIFT)" */
     private static void clampsAtTheLowerBound(Due due) {
         taken(due, Integer.MIN_VALUE, -100000);
         taken(due, -100001, -100000);
@@ -45,6 +46,7 @@ public final class P04EdgesTest {
         taken(due, -1, -1);
     }
 
+    /** "drift(c) = clamp(ppb, -MAX_DRIFT, MAX_DRIFT)" */
     private static void clampsAtTheUpperBound(Due due) {
         taken(due, 0, 0);
         taken(due, 1, 1);

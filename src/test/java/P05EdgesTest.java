@@ -49,6 +49,7 @@ public final class P05EdgesTest {
         due.call(x.getTime(1), time + SECOND, "getTime", 1);
     }
 
+    /** "time(c) = clamp(t, 0, MAX_TIME)" */
     private static void clampsAtTheLowerBound(Due due) {
         taken(due, Long.MIN_VALUE, 0L);
         taken(due, -MAX, 0L);
@@ -57,6 +58,7 @@ public final class P05EdgesTest {
         taken(due, 1L, 1L);
     }
 
+    /** "time(c) = clamp(t, 0, MAX_TIME)" */
     private static void clampsAtTheUpperBound(Due due) {
         taken(due, MAX - 1, MAX - 1);
         taken(due, MAX, MAX);

@@ -77,6 +77,7 @@ public final class P06EdgesTest {
         refused(due, 2, 1, 0);
     }
 
+    /** "No link, up or down, already joins a and b": the link is down, and up again. */
     private static void refusesClocksJoinedByADownLink(Due due) {
         GrandClock x = Scenes.ring(4);
         GrandClock twin = Scenes.ring(4);
@@ -121,6 +122,7 @@ public final class P06EdgesTest {
         return x;
     }
 
+    /** "tests the following in this order": whichever fails first, the answer is one and the same. */
     private static void refusesForSeveralReasons(Due due) {
         GrandClock x = filled(1);
         int[] pairs = {-1, -1, -1, 8, 8, 8, 8, 0, 0, 8, 3, 3, 0, 1, 1, 0, Integer.MIN_VALUE, Integer.MAX_VALUE};
@@ -160,6 +162,7 @@ public final class P06EdgesTest {
         due.measures(back, 1, offset, (d01 + d10) / 2, SECOND, SECOND + d01, SECOND + d01, SECOND + d01 + d10);
     }
 
+    /** "d(a->b) = clamp(dab, 0, MAX_DELAY)" */
     private static void clampsTheDelayThere(Due due) {
         delays(due, Integer.MIN_VALUE, 40, 0, 40);
         delays(due, -1, 40, 0, 40);
@@ -171,6 +174,7 @@ public final class P06EdgesTest {
         delays(due, Integer.MAX_VALUE, 40, 10000000, 40);
     }
 
+    /** "d(b->a) = clamp(dba, 0, MAX_DELAY)" */
     private static void clampsTheDelayBack(Due due) {
         delays(due, 40, Integer.MIN_VALUE, 40, 0);
         delays(due, 40, -1, 40, 0);

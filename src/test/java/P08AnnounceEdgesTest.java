@@ -80,7 +80,7 @@ public final class P08AnnounceEdgesTest {
         due.cleared(x, c, link);
     }
 
-    /** Clock 1 announces once and is a slave then. */
+    /** "nothing was sent to F": clock 1 announces once and is a slave then. */
     private static void agesWhenNothingIsSent(Due due, int timeout) {
         GrandClock x = Scenes.pair(timeout, 0, 0);
         x.run(1);
@@ -100,7 +100,7 @@ public final class P08AnnounceEdgesTest {
         return x;
     }
 
-    /** Clock 0 is cut off; after six steps its vector has come round to clock 1 with 7 steps. */
+    /** "or the message was not accepted": clock 0 is cut off, and its vector comes round to 1 with 7 steps. */
     private static void agesWhenTooManyStepsAreSent(Due due, int timeout) {
         GrandClock x = tailedRing(4, timeout);
         x.setLinkUp(0, false);
@@ -110,7 +110,7 @@ public final class P08AnnounceEdgesTest {
         agesUntilCleared(due, x, 2, 1, timeout);
     }
 
-    /** Clock 0 turns worse and follows clock 1, to which its old vector has come round after six steps. */
+    /** "or the message was not accepted": clock 0 turns worse and follows 1, to which its old vector comes round. */
     private static void agesWhenItsOwnIdentityIsSent(Due due, int timeout) {
         GrandClock x = tailedRing(6, timeout);
         x.setPriority(0, 200, 200);
@@ -148,6 +148,7 @@ public final class P08AnnounceEdgesTest {
         due.message(x, 0, 0, 7, 8, 9, 10, 11, 1, 0, 1);
     }
 
+    /** "If E is MASTER, the clock at E sends its V to F.": a slave end sends nothing. */
     private static void sendsNothingFromSlaves(Due due) {
         GrandClock x = Scenes.chain(3, 1);
         x.run(20);
@@ -159,6 +160,7 @@ public final class P08AnnounceEdgesTest {
         due.message(x, 2, 1, 128, 248, 254, 65535, 128, 0, 1, 1);
     }
 
+    /** "If E is MASTER, the clock at E sends its V to F.": a passive end sends nothing. */
     private static void sendsNothingFromPassiveEnds(Due due) {
         GrandClock x = Scenes.triangle(1);
         x.run(20);

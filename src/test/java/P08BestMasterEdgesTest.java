@@ -43,7 +43,7 @@ public final class P08BestMasterEdgesTest {
         due.follows(x, 1, 0, 0, 1);
     }
 
-    /** Both clocks of the pair are slaves and silent until clock 0 has no store left, worse than 1 though it is. */
+    /** "No candidate": both clocks are slaves and silent until clock 0 has no store left, worse than 1 though it is. */
     private static void followsItselfWithClearedStoresAlone(Due due) {
         GrandClock x = Scenes.pair(2, 0, 0);
         x.run(1);
@@ -108,7 +108,7 @@ public final class P08BestMasterEdgesTest {
         }
     }
 
-    /** Candidates that are equal in all but the last field, from two and from six neighbours. */
+    /** "the best candidate, compared as a vector": equal in all but the last field, from two to six neighbours. */
     private static void takesCandidatesEqualInAllButTheSender(Due due) {
         for (int neighbours = 2; neighbours <= 6; neighbours++) {
             GrandClock x = new GrandClock(8, 16, 2);
@@ -151,7 +151,7 @@ public final class P08BestMasterEdgesTest {
         due.states(x, 5, 2, GrandClock.MASTER, 4, GrandClock.PASSIVE);
     }
 
-    /** Clock 5 now follows 2; the store from 4 has one step less than its vector. */
+    /** "PASSIVE if its store is valid and better": clock 5 now follows 2; the store from 4 has one step less than V(5). */
     private static void isPassiveByTheStepsAlone(Due due) {
         GrandClock x = branches(2, 5);
         due.follows(x, 5, 0, 2, 3);
@@ -160,7 +160,7 @@ public final class P08BestMasterEdgesTest {
         due.states(x, 5, 2, GrandClock.MASTER, 5, GrandClock.SLAVE);
     }
 
-    /** The store at 5 has one step more than its vector, and a smaller sender. */
+    /** "and MASTER otherwise": the store at 5 has one step more than its vector, and a smaller sender. */
     private static void isMasterByTheStepsAlone(Due due) {
         GrandClock x = new GrandClock(6, 6, 3);
         x.addLink(0, 5, 0, 0);
@@ -174,6 +174,7 @@ public final class P08BestMasterEdgesTest {
         due.states(x, 3, 3, GrandClock.PASSIVE, 5, GrandClock.MASTER);
     }
 
+    /** "and MASTER otherwise": a cleared store, whose fields of 0 would be better than any. */
     private static void isMasterWithoutAValidStore(Due due) {
         GrandClock x = Scenes.chain(3, 1);
         x.run(10);
@@ -182,6 +183,7 @@ public final class P08BestMasterEdgesTest {
         due.call(x.getPortState(1, 1), GrandClock.MASTER, "getPortState", 1, 1);
     }
 
+    /** "and MASTER otherwise": a store of another grandmaster. */
     private static void isMasterWithAWorseGrandmaster(Due due) {
         GrandClock x = Scenes.chain(3, 4);
         x.run(1);
@@ -221,7 +223,7 @@ public final class P08BestMasterEdgesTest {
         due.states(x, 2, 2, GrandClock.SLAVE, 0, GrandClock.MASTER);
     }
 
-    /** Clock 1 follows 2 over link 1; its end on the down link to 0 holds nothing and stays. */
+    /** "Ends on down links stay DISABLED.": clock 1 follows 2 over link 1, and link 0 is down. */
     private static void leavesEndsOnDownLinksOfAFollower(Due due) {
         GrandClock x = Scenes.triangle(2);
         x.run(10);

@@ -79,7 +79,7 @@ public final class P08MeasureEdgesTest {
         count(due, x, 1, 1);
     }
 
-    /** Clock 1 has lost clock 0 and follows 2, which is nearer to 0 but holds 1's better, old vector. */
+    /** "the other end of L is MASTER": clock 1 has lost 0 and follows 2, which holds the better, old vector of 1. */
     private static void needsAMasterThereAndNotAPassiveEnd(Due due) {
         GrandClock x = Scenes.triangle(4);
         x.run(20);
@@ -96,6 +96,7 @@ public final class P08MeasureEdgesTest {
         count(due, x, 2, 21);
     }
 
+    /** "A clock c is measured when all of these hold": as soon as they do. */
     private static void isMeasuredWhenAllHold(Due due) {
         GrandClock x = Scenes.pair(1, 5, 9);
         x.run(1);
@@ -105,7 +106,7 @@ public final class P08MeasureEdgesTest {
         count(due, x, 1, 1);
     }
 
-    /** The step that ends the pair's link between master and slave still measures over it. */
+    /** "This phase works on the values at the start of the step.": the step that ends them still measures. */
     private static void worksOnTheStartOfTheStep(Due due) {
         GrandClock x = Scenes.pair(1, 0, 0);
         x.run(2);
@@ -142,6 +143,7 @@ public final class P08MeasureEdgesTest {
         measured(due, -SECOND, 0, 1, -1000000000, 0);
     }
 
+    /** "x / n truncates toward zero" */
     private static void dividesOddDelaysTowardZero(Due due) {
         measured(due, 0, 0, 0, 0, 0);
         measured(due, 0, 1, 1, 0, 1);

@@ -19,6 +19,7 @@ public final class P08RunEdgesTest {
         due.call(x.getTime(1), taken * SECOND, "getTime", 1);
     }
 
+    /** "n = clamp(steps, 0, MAX_RUN)" */
     private static void clampsAtTheLowerBound(Due due) {
         steps(due, Integer.MIN_VALUE, 0);
         steps(due, Integer.MIN_VALUE + 1, 0);
@@ -28,6 +29,7 @@ public final class P08RunEdgesTest {
         steps(due, 1, 1);
     }
 
+    /** "n = clamp(steps, 0, MAX_RUN)" */
     private static void clampsAtTheUpperBound(Due due) {
         steps(due, 63, 63);
         steps(due, 64, 64);
@@ -48,7 +50,7 @@ public final class P08RunEdgesTest {
         }
     }
 
-    /** Datasets, times and links that the next step will take up, and run(0) does not. */
+    /** "When n is 0, nothing changes.": what the next step will take up still waits. */
     private static void leavesPendingChangesInNoSteps(Due due) {
         GrandClock x = changed();
         due.call(x.run(0), 0, "run", 0);

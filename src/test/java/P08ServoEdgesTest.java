@@ -79,6 +79,7 @@ public final class P08ServoEdgesTest {
         ahead(due, x, 0);
     }
 
+    /** "Otherwise:" at STEP_LIMIT and at -STEP_LIMIT, and one inside each. */
     private static void steersAtTheStepLimit(Due due) {
         steered(due, 1000000, -125000, -500000);
         steered(due, -1000000, 125000, 500000);
@@ -109,6 +110,7 @@ public final class P08ServoEdgesTest {
         ahead(due, x, -625);
     }
 
+    /** "integral(c) - o / 8", where "x / n truncates toward zero". */
     private static void dividesTheOffsetByEightTowardZero(Due due) {
         steered(due, 7, 0, -3);
         steered(due, -7, 0, 3);
@@ -122,6 +124,7 @@ public final class P08ServoEdgesTest {
         steered(due, -16, 2, 10);
     }
 
+    /** "integral(c) - o / 2", where "x / n truncates toward zero". */
     private static void dividesTheOffsetByTwoTowardZero(Due due) {
         steered(due, 0, 0, 0);
         steered(due, 1, 0, 0);
@@ -145,6 +148,7 @@ public final class P08ServoEdgesTest {
         return x;
     }
 
+    /** "integral(c) = clamp(integral(c) - o / 8, -MAX_ADJUST, MAX_ADJUST)": one inside, at the bound, and beyond. */
     private static void clampsTheIntegralAtItsBounds(Due due) {
         for (int sign = -1; sign <= 1; sign += 2) {
             GrandClock to = almostFull(due, sign);
@@ -163,7 +167,7 @@ public final class P08ServoEdgesTest {
         }
     }
 
-    /** The integral is 100000 in each of the three; the half of the offset makes the difference. */
+    /** "adjust(c) = clamp(integral(c) - o / 2, -MAX_ADJUST, MAX_ADJUST)": one inside, at the bound, and one beyond. */
     private static void clampsTheAdjustAtItsBounds(Due due) {
         for (int sign = -1; sign <= 1; sign += 2) {
             GrandClock below = fresh();
@@ -210,6 +214,7 @@ public final class P08ServoEdgesTest {
         due.call(slaves.getTime(1), SECOND - 625, "getTime", 1);
     }
 
+    /** "time(c) = time(c) + NS_PER_STEP + drift(c) + adjust(c)" */
     private static void advancesByDriftAndAdjustAtTheirBounds(Due due) {
         for (int sign = -1; sign <= 1; sign += 2) {
             GrandClock x = fresh();

@@ -78,6 +78,7 @@ public final class P08SettlingEdgesTest {
         net.checkSettled(due);
     }
 
+    /** "Suppose s >= 7*T+8." here and in the next ones: since the last link was added. */
     private static void settlesAfterAddLink(Due due, int shape, int timeout) {
         Network net = shape(shape, timeout);
         settle(due, net);
@@ -140,7 +141,7 @@ public final class P08SettlingEdgesTest {
         }
     }
 
-    /** Its vector goes round in what is left until it has too many steps or its stores are too old. */
+    /** "all clocks reachable from c over up links": the vector of the lost clock goes round in what is left. */
     private static void settlesWhenTheBestClockIsCutOff(Due due, int timeout) {
         for (int shape = 0; shape < SHAPES; shape++) {
             Network net = settled(shape, timeout);
@@ -154,6 +155,7 @@ public final class P08SettlingEdgesTest {
         }
     }
 
+    /** "getMeasure(c, M_DELAY) equals d": for the least and the greatest d. */
     private static void measuresDelaysAtTheirBounds(Due due, int timeout) {
         for (int d : new int[] {Integer.MIN_VALUE, -1, 0, 1, 9999999, 10000000, 10000001, Integer.MAX_VALUE}) {
             Network net = new Network(3, timeout).join(0, 1, d).join(2, 1, d);
@@ -162,6 +164,7 @@ public final class P08SettlingEdgesTest {
         }
     }
 
+    /** "equals getTime(c) - getTime(p) as read just before that run(1)": for the least and the greatest times. */
     private static void measuresTimesAtTheirBounds(Due due, int timeout) {
         Network net = settled(0, timeout);
         net.x.setTime(0, Long.MAX_VALUE);

@@ -57,6 +57,7 @@ public final class P09EdgesTest {
         }
     }
 
+    /** "the state of c's end of link: DISABLED, MASTER, SLAVE or PASSIVE" */
     private static void answersEachState(Due due) {
         GrandClock x = Scenes.triangle(2);
         due.states(x, 1, 1, GrandClock.MASTER, 2, GrandClock.MASTER);

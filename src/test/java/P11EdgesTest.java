@@ -46,6 +46,7 @@ public final class P11EdgesTest {
         }
     }
 
+    /** "Otherwise it answers parent(c)", which stays until the step. */
     private static void losesTheParentInAStep(Due due) {
         GrandClock x = Scenes.pair(4, 0, 0);
         x.run(5);

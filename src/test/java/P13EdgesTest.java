@@ -38,7 +38,7 @@ public final class P13EdgesTest {
         }
     }
 
-    /** A clock goes on beyond MAX_TIME, which bounds setTime alone. */
+    /** "and time(c) otherwise": a clock goes on beyond MAX_TIME, which bounds setTime alone. */
     private static void answersTimesAtTheirBounds(Due due) {
         GrandClock x = new GrandClock(2, 1, 1);
         x.setTime(0, GrandClock.MAX_TIME);
@@ -49,7 +49,7 @@ public final class P13EdgesTest {
         due.call(x.getTime(0), GrandClock.MAX_TIME + SECOND, "getTime", 0);
     }
 
-    /** The wrap-around leads to any long, and each is answered as it is. */
+    /** "and time(c) otherwise": the wrap-around leads to any long, and each is answered as it is. */
     private static void answersTimesBeyondTheirBounds(Due due) throws IllegalAccessException {
         GrandClock x = new GrandClock(2, 1, 1);
         for (long time : new long[] {Long.MIN_VALUE, -1L, GrandClock.MAX_TIME + 1, Long.MAX_VALUE}) {

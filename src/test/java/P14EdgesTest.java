@@ -43,6 +43,7 @@ public final class P14EdgesTest {
         }
     }
 
+    /** The table of "which", from its first row to its last. */
     private static void answersTheFirstAndTheLastSelector(Due due) {
         GrandClock x = measured();
         due.call(x.getMeasure(1, 0), 4300, "getMeasure", 1, 0);

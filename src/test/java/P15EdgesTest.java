@@ -60,6 +60,7 @@ public final class P15EdgesTest {
         }
     }
 
+    /** "it answers the chosen field of the store at c's end of that link": 0, 9 and those between them. */
     private static void answersTheFirstAndTheLastField(Due due) {
         GrandClock x = line();
         due.call(x.getAnnounce(1, 1, 0), 1, "getAnnounce", 1, 1, 0);
@@ -132,7 +133,7 @@ public final class P15EdgesTest {
         due.cleared(x, 0, 0);
     }
 
-    /** A store of age 3, one before it is cleared, while the vectors have age 0. */
+    /** "F_AGE: the age": 3, one before the store is cleared, while the vectors have age 0. */
     private static void answersTheAgeOfAStore(Due due) {
         GrandClock x = Scenes.pair(4, 0, 0);
         x.run(4);

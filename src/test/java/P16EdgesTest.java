@@ -39,6 +39,7 @@ public final class P16EdgesTest {
         }
     }
 
+    /** "answers 0 if a or b is not in 0..N-1" */
     private static void answersZeroForABOutside(Due due) {
         for (int n = 2; n <= 8; n++) {
             GrandClock x = Scenes.ring(n);
@@ -66,7 +67,7 @@ public final class P16EdgesTest {
         }
     }
 
-    /** The datasets are equal but for one field, in which they differ by 1 or by as much as can be. */
+    /** "It answers -1 if D(a) is better and 1 if D(b) is better.": by 1 or by as much as can be, in one field. */
     private static void decidesByOneFieldAlone(Due due) {
         for (int field = 0; field < 5; field++) {
             for (int better = 0; better <= 1; better++) {
